@@ -552,7 +552,8 @@ public final class ReplayHouse {
         for (int version = 0; version < VERSIONS; version++) {
             Run run = trial[version];
             run.backToMark();
-            for (int i = from; i < place; i++) {
+            // The ask itself too: one of the ten may be caused by it, though it is done ahead of it.
+            for (int i = from; i <= place; i++) {
                 run.isDone[book.order[i]] = false;
             }
             for (int i = from; i < place; i++) {

@@ -9,6 +9,7 @@ public final class NeighboursTest {
         theFirstOfTheFewest();
         lastTenAlone();
         leftOutCauses();
+        causedByTheAskItself();
         noiseCounts();
         wrongInputs();
         Check.close("NeighboursTest");
@@ -152,6 +153,30 @@ public final class NeighboursTest {
         Check.same("the cause hides it", x.small(3), -1);
         x.caused(3, 0, 0);
         smallIs("different with the cause and without", x, 3);
+    }
+
+    private static void causedByTheAskItself() {
+        ReplayHouse x = new ReplayHouse();
+        Check.tell(x, 0, 0, "say get 0*0;");
+        Check.tell(x, 1, 0, "say 2=get 0;");
+        Check.tellBoth(x, 1, "when a=7 (put 0 get 0+1;)");
+        x.ask(0, 0, 0, 9);
+        for (int tick = 0; tick < 4; tick++) {
+            x.ask(1, 7, 0, tick);
+        }
+        x.caused(1, 0, 0);
+        x.caused(2, 0, 0);
+        x.ask(1, 0, 0, 4);
+        x.begin(0, -2);
+        smallIs("its cause is done later in every trial", x, 0, 1, 2, 3, 4);
+        x.begin(0, 0);
+        x.caused(4, -1, 0);
+        Check.same("four are too many", x.small(0), -1);
+        x.begin(0, -1);
+        Check.same("three of four are not all", x.small(0), -1);
+        x.ask(1, 6, 0, 3);
+        x.begin(0, -2);
+        smallIs("without those that do nothing", x, 0, 1, 2, 3, 4);
     }
 
     private static void noiseCounts() {
