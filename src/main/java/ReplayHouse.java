@@ -66,7 +66,7 @@ public final class ReplayHouse {
         begins = new int[KEYS];
         kept = new int[ARGUMENTS];
         noisy = new boolean[KINDS * FIELDS];
-        reader = new Reader(tape);
+        reader = new Reader();
         book = new AskBook();
         Script empty = new Script(new int[0], 0);
         scripts = new Script[VERSIONS * KINDS];
@@ -76,8 +76,8 @@ public final class ReplayHouse {
         whole = new Run[VERSIONS];
         trial = new Run[VERSIONS];
         for (int version = 0; version < VERSIONS; version++) {
-            whole[version] = new Run(kept);
-            trial[version] = new Run(kept);
+            whole[version] = new Run();
+            trial[version] = new Run();
         }
         smallSets = new int[MOST_ASKS];
     }
@@ -101,7 +101,7 @@ public final class ReplayHouse {
             throw new IllegalArgumentException("not so many bytes on the tape");
         }
         tapeLength = 0;
-        if (!reader.understands(n)) {
+        if (!reader.understands(tape, n)) {
             return -2 - reader.place();
         }
         Script script = reader.script();
@@ -420,7 +420,7 @@ public final class ReplayHouse {
     }
 
     private void doAll(Run run, int version, int latestId) {
-        run.start(begins, latestId);
+        run.start(begins, kept, latestId);
         for (int i = 0; i < book.size; i++) {
             doAsk(run, version, book.order[i]);
         }
@@ -539,7 +539,7 @@ public final class ReplayHouse {
     private void doAlwaysIn(int from) {
         for (int version = 0; version < VERSIONS; version++) {
             Run run = trial[version];
-            run.start(begins, 0);
+            run.start(begins, kept, 0);
             for (int i = 0; i < from; i++) {
                 doAsk(run, version, book.order[i]);
             }
@@ -581,20 +581,16 @@ public final class ReplayHouse {
     private static final class Reader {
         private static final int NO_BYTE = -1;
 
-        private final int[] tape;
-        private final int[] signs;
+        private final int[] signs = new int[MOST_BYTES];
+        private int[] bytes = new int[0];
         private int length;
         private int at;
         private int used;
         private int steps;
 
-        Reader(int[] tape) {
-            this.tape = tape;
-            this.signs = new int[MOST_BYTES];
-        }
-
-        boolean understands(int bytes) {
-            length = bytes;
+        boolean understands(int[] tape, int n) {
+            bytes = tape;
+            length = Math.min(n, tape.length);
             at = 0;
             used = 0;
             steps = 0;
@@ -727,7 +723,7 @@ public final class ReplayHouse {
         }
 
         private void skipBlanks() {
-            while (at < length && at < tape.length && tape[at] == ' ') {
+            while (at < length && bytes[at] == ' ') {
                 at++;
             }
         }
@@ -756,7 +752,7 @@ public final class ReplayHouse {
         }
 
         private int byteAt(int i) {
-            return i >= 0 && i < length && i < tape.length ? tape[i] : NO_BYTE;
+            return i >= 0 && i < length ? bytes[i] : NO_BYTE;
         }
 
         private static boolean isDigit(int value) {
@@ -831,7 +827,7 @@ public final class ReplayHouse {
         final int[] stepsOfKinds = new int[KINDS];
         int outsideCalls;
 
-        private final int[] kept;
+        private final int[] kept = new int[ARGUMENTS];
         private final int[] markedValues = new int[KEYS];
         private final int[] stack = new int[STACK];
         private int markedId;
@@ -841,12 +837,9 @@ public final class ReplayHouse {
         private int first;
         private int second;
 
-        Run(int[] kept) {
-            this.kept = kept;
-        }
-
-        void start(int[] begins, int id) {
+        void start(int[] begins, int[] keptNumbers, int id) {
             System.arraycopy(begins, 0, values, 0, KEYS);
+            System.arraycopy(keptNumbers, 0, kept, 0, ARGUMENTS);
             Arrays.fill(stepsOfKinds, 0);
             for (int ask = 0; ask < MOST_ASKS; ask++) {
                 isDone[ask] = false;

@@ -8,6 +8,8 @@ public final class DifferencesTest {
         learningThroughCauses();
         differences();
         shapes();
+        firstCallsBehindAChange();
+        lastShape();
         wrongInputs();
         Check.close("DifferencesTest");
     }
@@ -116,6 +118,44 @@ public final class DifferencesTest {
         Check.same("noise at field 0", x.shapes(), 2);
         Check.same("one more has the first shape", x.shape(0, 2), 3);
         Check.same("the second", x.shape(1, 3), 2);
+    }
+
+    private static void firstCallsBehindAChange() {
+        ReplayHouse x = new ReplayHouse();
+        Check.tell(x, 0, 0, "say id;");
+        Check.tell(x, 1, 0, "say id+get 0;");
+        x.ask(0, 0, 0, 0);
+        Check.same("alike", x.differs(0), -1);
+        x.begin(0, 1);
+        Check.same("the first shape's lowest", x.shape(0, 3), 0);
+        x.begin(0, 0);
+        Check.same("no shape", x.shapes(), 0);
+        x.begin(0, 1);
+        Check.same("one shape", x.shapes(), 1);
+        x.begin(0, 0);
+        Check.same("no difference", x.differs(0), -1);
+        x.begin(0, 1);
+        Check.same("learnt", x.learn(), 1);
+        Check.same("noise hides it", x.differs(0), -1);
+        Check.same("and its shape", x.shapes(), 0);
+    }
+
+    /** The highest kind and the last place. */
+    private static void lastShape() {
+        ReplayHouse x = new ReplayHouse();
+        Check.tellBoth(x, 3, "say a;say 1;say 1;say 1;say 1;say 1;say 1;say b;");
+        x.ask(3, 1, 1, 0);
+        Check.same("alike", x.shapes(), 0);
+        Check.tell(x, 1, 3, "say a;say 1;say 1;say 1;say 1;say 1;say 1;");
+        Check.same("one shape", x.shapes(), 1);
+        Check.same("kind 3", x.shape(0, 0), 3);
+        Check.same("at 7", x.shape(0, 1), 7);
+        Check.same("of one ask", x.shape(0, 2), 1);
+        Check.same("ask 0", x.shape(0, 3), 0);
+        x.ask(0, 0, 0, 0);
+        Check.tell(x, 0, 0, "say 1;");
+        Check.same("two shapes", x.shapes(), 2);
+        Check.same("kind 0 next", x.shape(1, 0), 0);
     }
 
     private static void wrongInputs() {

@@ -11,6 +11,9 @@ public final class NeighboursTest {
         leftOutCauses();
         causedByTheAskItself();
         noiseCounts();
+        idsOfTrials();
+        versionsOfTrials();
+        firstCallsBehindAChange();
         wrongInputs();
         Check.close("NeighboursTest");
     }
@@ -192,11 +195,75 @@ public final class NeighboursTest {
         smallIs("two", x, 2, 0, 1);
         x.noise(1, 0, false);
         smallIs("one again", x, 2, 0);
-        Check.tell(x, 0, 1, "say id; say 0;");
-        x.learn();
+        Check.tell(x, 0, 1, "say id-1; say 0;");
+        smallIs("still one", x, 2, 0);
+        Check.same("field 0", x.learn(), 1);
         smallIs("two when it was learnt", x, 2, 0, 1);
-        Check.same("the whole runs stay", x.field(0, 2, 0), 1);
+        Check.same("the whole runs stay", x.field(0, 2, 0), 0);
         Check.same("the whole runs stay", x.end(1, 0), 2);
+    }
+
+    private static void idsOfTrials() {
+        ReplayHouse x = new ReplayHouse();
+        Check.tellBoth(x, 0, "put 1 id;");
+        Check.tell(x, 0, 1, "say 0; say id;");
+        Check.tell(x, 1, 1, "say id=4; say id;");
+        for (int i = 0; i < 3; i++) {
+            x.ask(0, 0, 0, i);
+        }
+        x.ask(1, 0, 0, 3);
+        x.noise(1, 1, true);
+        smallIs("three ids ahead", x, 3, 0, 1, 2);
+        for (int i = 0; i < 10; i++) {
+            x.ask(2, 0, 0, 2);
+        }
+        smallIs("three ids always in", x, 3);
+        Check.tell(x, 1, 1, "say id=1; say id;");
+        Check.same("not the first id", x.small(3), -1);
+        x.ask(1, 0, 0, 0);
+        Check.same("not the second", x.small(14), -1);
+    }
+
+    private static void versionsOfTrials() {
+        ReplayHouse x = new ReplayHouse();
+        Check.tell(x, 0, 0, "put 0 5;");
+        Check.tell(x, 1, 0, "put 0 6;");
+        Check.tellBoth(x, 1, "say get 0;");
+        x.ask(0, 0, 0, 0);
+        x.ask(1, 0, 0, 2);
+        smallIs("the one that puts", x, 1, 0);
+        for (int i = 0; i < 10; i++) {
+            x.ask(2, 0, 0, 1);
+        }
+        smallIs("it is always in", x, 1);
+    }
+
+    private static void firstCallsBehindAChange() {
+        ReplayHouse x = new ReplayHouse();
+        Check.tellBoth(x, 0, "put a 1; when get 7 (put b get b;)");
+        Check.tell(x, 0, 1, "say 0;");
+        Check.tell(x, 1, 1, "say 0<get 1;");
+        x.ask(0, 1, 2, 0);
+        x.ask(0, 2, 1, 0);
+        x.ask(1, 0, 0, 9);
+        Check.same("small", x.small(2), 1);
+        Check.same("free", x.free(0), 2);
+        x.begin(7, 1);
+        Check.same("free no more", x.free(0), 1);
+        x.begin(7, 0);
+        Check.same("free again", x.free(0), 2);
+        x.begin(7, 1);
+        Check.same("touching", x.touch(0, 1), true);
+        x.begin(7, 0);
+        Check.same("touching no more", x.touch(1, 0), false);
+        x.begin(1, 1);
+        Check.same("none is needed", x.smallest(2, 0), -1);
+        x.begin(1, 0);
+        Check.same("ask 0 is needed", x.smallest(2, 0), 0);
+        Check.tellBoth(x, 0, "");
+        Check.same("not different", x.smallest(2, 0), -1);
+        Check.tellBoth(x, 0, "put b 1;");
+        Check.same("ask 1 is needed", x.smallest(2, 0), 1);
     }
 
     private static void wrongInputs() {

@@ -6,6 +6,7 @@ public final class RunsTest {
         order();
         answersAreCut();
         valuesWrap();
+        deepest();
         keysAndArguments();
         workedInOrder();
         ids();
@@ -14,6 +15,7 @@ public final class RunsTest {
         callsAndNevers();
         versionsAreApart();
         changesShow();
+        nothingIsLeft();
         wrongInputs();
         Check.close("RunsTest");
     }
@@ -69,6 +71,21 @@ public final class RunsTest {
         Check.same("sides of <", worked("a+1<b*2", 7, 4), 0);
         Check.same("sides of =", worked("a+1=b*2", 7, 4), 1);
         Check.same("within ( )", worked("a-(b-1)*(a<b+1)", 7, 4), 0);
+    }
+
+    /** As many values held back as there can be: two for each of twelve that are open, two outside, one of put. */
+    private static void deepest() {
+        ReplayHouse x = new ReplayHouse();
+        String text = "put 3 1+" + "(0-7<2*".repeat(12) + "a" + ")".repeat(12) + ";";
+        Check.same(text, Check.tell(x, 0, 0, text), 1);
+        text = "say 0-9<1+" + "(0-7<2*".repeat(12) + "a" + ")".repeat(12) + ";";
+        Check.same(text, Check.tell(x, 1, 0, text), 1);
+        x.ask(0, -4, 0, 0);
+        Check.same("put", x.end(0, 3), 2);
+        Check.same("say", x.field(1, 0, 0), 1);
+        text = "put 3 1+" + "(0-7=2*".repeat(12) + "a" + ")".repeat(12) + ";";
+        Check.same(text, Check.tell(x, 0, 0, text), 1);
+        Check.same("unlike", x.end(0, 3), 1);
     }
 
     private static void keysAndArguments() {
@@ -188,6 +205,25 @@ public final class RunsTest {
         Check.tellBoth(x, 0, "say 8;");
         Check.same("8", x.field(0, 0, 0), 8);
         Check.same("8 in both", x.field(1, 0, 0), 8);
+    }
+
+    /** What an earlier run left must not show in the next. */
+    private static void nothingIsLeft() {
+        ReplayHouse x = new ReplayHouse();
+        Check.tellBoth(x, 0, "when get 0 (put 1 get 2; say outside 3;)");
+        x.begin(0, 1);
+        x.ask(0, 0, 0, 0);
+        Check.same("reads", x.touched(0, 0, 0), 5);
+        Check.same("writes", x.touched(0, 0, 1), 2);
+        Check.same("never", x.never(0, 0), 0);
+        Check.same("calls", x.calls(0), 1);
+        x.begin(0, 0);
+        Check.same("reads less", x.touched(0, 0, 0), 1);
+        Check.same("writes less", x.touched(0, 0, 1), 0);
+        Check.same("does less", x.touched(0, 0, 2), 1);
+        Check.same("says less", x.fields(0, 0), 0);
+        Check.same("never more", x.never(0, 0), 2);
+        Check.same("calls less", x.calls(0), 0);
     }
 
     private static void wrongInputs() {

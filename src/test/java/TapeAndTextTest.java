@@ -90,6 +90,10 @@ public final class TapeAndTextTest {
         none("x", 0);
         none("pu", 0);
         none("puts 1 2;", 0);
+        none("puta 1 2;", 0);
+        none("putz 1 2;", 0);
+        none("say az;", 4);
+        none("say outsidea 1;", 4);
         none("put", 3);
         none("put ", 4);
         none("put 1", 5);
