@@ -5,6 +5,8 @@ public final class DifferencesTest {
     public static void main(String[] args) {
         noises();
         learning();
+        learningFromAMillion();
+        thirtyAsks();
         learningThroughCauses();
         differences();
         shapes();
@@ -50,6 +52,32 @@ public final class DifferencesTest {
         x.noise(3, 7, true);
         Check.same("what is noise stays", x.learn(), 0);
         Check.same("four", x.count(1), 4);
+    }
+
+    private static void learningFromAMillion() {
+        ReplayHouse x = new ReplayHouse();
+        Check.tell(x, 0, 0, "say id=(999999+2); say id=(999999+2); say id=(999999+4); say 0<id;");
+        x.ask(0, 0, 0, 0);
+        Check.same("its first and third id", x.learn(), 2);
+        Check.same("the first", x.noise(0, 0, true), true);
+        Check.same("the second", x.noise(0, 1, true), false);
+        Check.same("the third", x.noise(0, 2, true), true);
+    }
+
+    private static void thirtyAsks() {
+        ReplayHouse x = new ReplayHouse();
+        Check.tell(x, 0, 0, "say id;");
+        Check.tell(x, 0, 1, "say 1;");
+        for (int i = 0; i < 30; i++) {
+            x.ask(i < 29 ? 0 : 1, 0, 0, 30 - i);
+        }
+        Check.same("both kinds", x.shapes(), 2);
+        Check.same("29 of the first", x.shape(0, 2), 29);
+        Check.same("the second's one", x.shape(1, 3), 29);
+        Check.same("no third", x.shape(2, 3), -1);
+        Check.same("ids", x.learn(), 1);
+        Check.same("still unlike in length", x.shapes(), 2);
+        Check.same("free of all", x.free(29), 29);
     }
 
     private static void learningThroughCauses() {

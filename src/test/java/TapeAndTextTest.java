@@ -140,6 +140,11 @@ public final class TapeAndTextTest {
     private static void bounds() {
         stands("say " + "get ".repeat(12) + "a;", 1);
         none("say " + "get ".repeat(13) + "a;", 4 + 12 * 4);
+        stands("put " + "get ".repeat(12) + "a " + "get ".repeat(12) + "b;", 1);
+        none("put " + "get ".repeat(13) + "a 1;", 4 + 12 * 4);
+        none("put 1 " + "get ".repeat(13) + "a;", 6 + 12 * 4);
+        none("say 1<" + "get ".repeat(13) + "a;", 6 + 12 * 4);
+        none("when " + "get ".repeat(13) + "a ()", 5 + 12 * 4);
         stands("say " + "(".repeat(12) + "a" + ")".repeat(12) + ";", 1);
         none("say " + "(".repeat(13) + "a" + ")".repeat(13) + ";", 16);
         stands("say " + "get(outside ".repeat(4) + "a" + ")".repeat(4) + ";", 1);
