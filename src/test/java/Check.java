@@ -52,9 +52,33 @@ final class Check {
         return house.text(version, kind, text.length());
     }
 
+    /** Tells a text that must be one. */
+    static void set(ReplayHouse house, int version, int kind, String text) {
+        same("'" + text + "' is a text", tell(house, version, kind, text) >= 0, true);
+    }
+
     /** Both versions get the same text for a kind. */
     static void tellBoth(ReplayHouse house, int kind, String text) {
-        same("the S of " + text, tell(house, 0, kind, text), tell(house, 1, kind, text));
+        set(house, 0, kind, text);
+        set(house, 1, kind, text);
+    }
+
+    /** The text, told to a new object, has so many S. */
+    static void stands(String text, int steps) {
+        same("'" + text + "'", tell(new ReplayHouse(), 0, 0, text), steps);
+    }
+
+    /** The text, told to a new object, is none, and this is its PLACE. */
+    static void none(String text, int place) {
+        same("'" + text + "'", tell(new ReplayHouse(), 0, 0, text), -2 - place);
+    }
+
+    /** What an E comes to for an ask with these numbers. */
+    static int worked(String e, int a, int b) {
+        ReplayHouse house = new ReplayHouse();
+        same(e, tell(house, 1, 3, "say " + e + ";"), 1);
+        house.ask(3, a, b, 0);
+        return house.field(1, 0, 0);
     }
 
     static void close(String name) {

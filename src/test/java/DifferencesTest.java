@@ -32,9 +32,9 @@ public final class DifferencesTest {
 
     private static void learning() {
         ReplayHouse x = new ReplayHouse();
-        Check.tell(x, 0, 0, "say 1; say id; say a; say id*0;");
-        Check.tell(x, 1, 0, "say id; say id; say id; say id;");
-        Check.tell(x, 0, 1, "say get 0; put 0 id; when 999<get 0 (say 5;) say 6;");
+        Check.set(x, 0, 0, "say 1; say id; say a; say id*0;");
+        Check.set(x, 1, 0, "say id; say id; say id; say id;");
+        Check.set(x, 0, 1, "say get 0; put 0 id; when 999<get 0 (say 5;) say 6;");
         Check.same("without asks", x.learn(), 0);
         x.ask(0, 0, 0, 0);
         x.ask(0, 0, 0, 1);
@@ -56,7 +56,7 @@ public final class DifferencesTest {
 
     private static void learningFromAMillion() {
         ReplayHouse x = new ReplayHouse();
-        Check.tell(x, 0, 0, "say id=(999999+2); say id=(999999+2); say id=(999999+4); say 0<id;");
+        Check.set(x, 0, 0, "say id=(999999+2); say id=(999999+2); say id=(999999+4); say 0<id;");
         x.ask(0, 0, 0, 0);
         Check.same("its first and third id", x.learn(), 2);
         Check.same("the first", x.noise(0, 0, true), true);
@@ -66,8 +66,8 @@ public final class DifferencesTest {
 
     private static void thirtyAsks() {
         ReplayHouse x = new ReplayHouse();
-        Check.tell(x, 0, 0, "say id;");
-        Check.tell(x, 0, 1, "say 1;");
+        Check.set(x, 0, 0, "say id;");
+        Check.set(x, 0, 1, "say 1;");
         for (int i = 0; i < 30; i++) {
             x.ask(i < 29 ? 0 : 1, 0, 0, 30 - i);
         }
@@ -82,8 +82,8 @@ public final class DifferencesTest {
 
     private static void learningThroughCauses() {
         ReplayHouse x = new ReplayHouse();
-        Check.tell(x, 0, 0, "say id;");
-        Check.tell(x, 0, 1, "say 0; say a;");
+        Check.set(x, 0, 0, "say id;");
+        Check.set(x, 0, 1, "say 0; say a;");
         x.ask(0, 0, 0, 0);
         x.ask(1, 0, 0, 0);
         x.caused(1, 0, 0);
@@ -94,12 +94,12 @@ public final class DifferencesTest {
 
     private static void differences() {
         ReplayHouse x = new ReplayHouse();
-        Check.tell(x, 0, 0, "say 1; say 2; say 3;");
-        Check.tell(x, 1, 0, "say 1; say 4; say 5;");
-        Check.tell(x, 0, 1, "say 1; say 2;");
-        Check.tell(x, 1, 1, "say 1; say 2; say 3;");
-        Check.tell(x, 0, 2, "say 1;say 1;say 1;say 1;say 1;say 1;say 1;say 1;say 1;");
-        Check.tell(x, 1, 2, "say 1;say 1;say 1;say 1;say 1;say 1;say 1;say 1;say 2;");
+        Check.set(x, 0, 0, "say 1; say 2; say 3;");
+        Check.set(x, 1, 0, "say 1; say 4; say 5;");
+        Check.set(x, 0, 1, "say 1; say 2;");
+        Check.set(x, 1, 1, "say 1; say 2; say 3;");
+        Check.set(x, 0, 2, "say 1;say 1;say 1;say 1;say 1;say 1;say 1;say 1;say 1;");
+        Check.set(x, 1, 2, "say 1;say 1;say 1;say 1;say 1;say 1;say 1;say 1;say 2;");
         for (int kind = 0; kind < 4; kind++) {
             x.ask(kind, 0, 0, 0);
         }
@@ -113,19 +113,19 @@ public final class DifferencesTest {
         Check.same("all noise", x.differs(0), -1);
         x.noise(1, 2, true);
         Check.same("a length is no field", x.differs(1), 2);
-        Check.tell(x, 1, 1, "say 9; say 2; say 3;");
+        Check.set(x, 1, 1, "say 9; say 2; say 3;");
         Check.same("the field ahead of the length", x.differs(1), 0);
         x.noise(1, 0, true);
         Check.same("the length behind noise", x.differs(1), 2);
-        Check.tell(x, 1, 1, "");
+        Check.set(x, 1, 1, "");
         Check.same("the other one shorter", x.differs(1), 0);
     }
 
     private static void shapes() {
         ReplayHouse x = new ReplayHouse();
-        Check.tell(x, 0, 0, "say 1; when a (say 1;)");
-        Check.tell(x, 1, 0, "say 1+b; when a (say 2;)");
-        Check.tell(x, 0, 1, "say 1;");
+        Check.set(x, 0, 0, "say 1; when a (say 1;)");
+        Check.set(x, 1, 0, "say 1+b; when a (say 2;)");
+        Check.set(x, 0, 1, "say 1;");
         int[][] asks = {{0, 0, 0}, {0, 1, 0}, {1, 0, 0}, {0, 0, 1}, {0, 5, 0}, {0, 1, 1}, {1, 0, 0}};
         for (int[] ask : asks) {
             x.ask(ask[0], ask[1], ask[2], 10 - ask[1]);
@@ -150,8 +150,8 @@ public final class DifferencesTest {
 
     private static void firstCallsBehindAChange() {
         ReplayHouse x = new ReplayHouse();
-        Check.tell(x, 0, 0, "say id;");
-        Check.tell(x, 1, 0, "say id+get 0;");
+        Check.set(x, 0, 0, "say id;");
+        Check.set(x, 1, 0, "say id+get 0;");
         x.ask(0, 0, 0, 0);
         Check.same("alike", x.differs(0), -1);
         x.begin(0, 1);
@@ -174,14 +174,14 @@ public final class DifferencesTest {
         Check.tellBoth(x, 3, "say a;say 1;say 1;say 1;say 1;say 1;say 1;say b;");
         x.ask(3, 1, 1, 0);
         Check.same("alike", x.shapes(), 0);
-        Check.tell(x, 1, 3, "say a;say 1;say 1;say 1;say 1;say 1;say 1;");
+        Check.set(x, 1, 3, "say a;say 1;say 1;say 1;say 1;say 1;say 1;");
         Check.same("one shape", x.shapes(), 1);
         Check.same("kind 3", x.shape(0, 0), 3);
         Check.same("at 7", x.shape(0, 1), 7);
         Check.same("of one ask", x.shape(0, 2), 1);
         Check.same("ask 0", x.shape(0, 3), 0);
         x.ask(0, 0, 0, 0);
-        Check.tell(x, 0, 0, "say 1;");
+        Check.set(x, 0, 0, "say 1;");
         Check.same("two shapes", x.shapes(), 2);
         Check.same("kind 0 next", x.shape(1, 0), 0);
     }

@@ -49,7 +49,7 @@ public final class LagAndCountTest {
 
     private static void versions() {
         ReplayHouse x = new ReplayHouse();
-        Check.tell(x, 0, 0, "say 1;say 1;say 1;");
+        Check.set(x, 0, 0, "say 1;say 1;say 1;");
         x.ask(0, 0, 0, 0);
         x.ask(0, 0, 0, 0);
         Check.same("version 0", x.lag(0, 1, 1), 3);
@@ -67,10 +67,10 @@ public final class LagAndCountTest {
 
     private static void counts() {
         ReplayHouse x = new ReplayHouse();
-        Check.tell(x, 0, 0, "say 1;");
-        Check.tell(x, 0, 3, "say 1;say 1;");
-        Check.tell(x, 1, 0, "when 0 (say 1;say 1;)");
-        Check.tell(x, 1, 3, "say 1;say 1;say 1;say 1;");
+        Check.set(x, 0, 0, "say 1;");
+        Check.set(x, 0, 3, "say 1;say 1;");
+        Check.set(x, 1, 0, "when 0 (say 1;say 1;)");
+        Check.set(x, 1, 3, "say 1;say 1;say 1;say 1;");
         x.ask(0, 0, 0, 0);
         x.ask(0, 0, 0, 0);
         x.noise(3, 7, true);
@@ -79,7 +79,7 @@ public final class LagAndCountTest {
         Check.same("noise", x.count(1), 1);
         Check.same("bytes", x.count(2), 20);
         Check.same("S of all texts", x.count(3), 10);
-        Check.tell(x, 1, 3, "");
+        Check.set(x, 1, 3, "");
         Check.same("S when one is gone", x.count(3), 6);
         for (int what : new int[] {-1, 4, Integer.MAX_VALUE, Integer.MIN_VALUE}) {
             Check.same("count " + what, x.count(what), -1);

@@ -20,8 +20,8 @@ public final class NeighboursTest {
 
     private static void touches() {
         ReplayHouse x = new ReplayHouse();
-        Check.tell(x, 0, 0, "put a 1;");
-        Check.tell(x, 0, 1, "say get a;");
+        Check.set(x, 0, 0, "put a 1;");
+        Check.set(x, 0, 1, "say get a;");
         x.ask(0, 1, 0, 0);
         x.ask(0, 1, 0, 0);
         x.ask(0, 2, 0, 0);
@@ -50,12 +50,12 @@ public final class NeighboursTest {
 
     private static void touchesByVersionZero() {
         ReplayHouse x = new ReplayHouse();
-        Check.tell(x, 1, 0, "put 1 1;");
+        Check.set(x, 1, 0, "put 1 1;");
         x.ask(0, 0, 0, 0);
         x.ask(0, 0, 0, 9);
         Check.same("version 1 alone", x.touch(0, 1), false);
         Check.same("free", x.free(0), 1);
-        Check.tell(x, 0, 0, "put 1 1;");
+        Check.set(x, 0, 0, "put 1 1;");
         Check.same("version 0", x.touch(0, 1), true);
         Check.same("not free", x.free(0), 0);
     }
@@ -72,8 +72,8 @@ public final class NeighboursTest {
     private static ReplayHouse counting(String other) {
         ReplayHouse x = new ReplayHouse();
         Check.tellBoth(x, 0, "put a get a+b;");
-        Check.tell(x, 0, 1, "say 0;");
-        Check.tell(x, 1, 1, "say " + other + ";");
+        Check.set(x, 0, 1, "say 0;");
+        Check.set(x, 1, 1, "say " + other + ";");
         return x;
     }
 
@@ -142,8 +142,8 @@ public final class NeighboursTest {
     private static void leftOutCauses() {
         ReplayHouse x = new ReplayHouse();
         Check.tellBoth(x, 0, "say b;");
-        Check.tell(x, 0, 1, "say 0;");
-        Check.tell(x, 1, 1, "say a;");
+        Check.set(x, 0, 1, "say 0;");
+        Check.set(x, 1, 1, "say a;");
         x.ask(0, 0, 7, 0);
         x.ask(0, 0, 0, 0);
         x.ask(1, 0, 0, 1);
@@ -160,8 +160,8 @@ public final class NeighboursTest {
 
     private static void causedByTheAskItself() {
         ReplayHouse x = new ReplayHouse();
-        Check.tell(x, 0, 0, "say get 0*0;");
-        Check.tell(x, 1, 0, "say 2=get 0;");
+        Check.set(x, 0, 0, "say get 0*0;");
+        Check.set(x, 1, 0, "say 2=get 0;");
         Check.tellBoth(x, 1, "when a=7 (put 0 get 0+1;)");
         x.ask(0, 0, 0, 9);
         for (int tick = 0; tick < 4; tick++) {
@@ -185,8 +185,8 @@ public final class NeighboursTest {
     private static void noiseCounts() {
         ReplayHouse x = new ReplayHouse();
         Check.tellBoth(x, 0, "put 0 get 0+1;");
-        Check.tell(x, 0, 1, "say 0; say 0;");
-        Check.tell(x, 1, 1, "say 0<get 0; say 1<get 0;");
+        Check.set(x, 0, 1, "say 0; say 0;");
+        Check.set(x, 1, 1, "say 0<get 0; say 1<get 0;");
         x.ask(0, 0, 0, 0);
         x.ask(0, 0, 0, 1);
         x.ask(1, 0, 0, 2);
@@ -195,7 +195,7 @@ public final class NeighboursTest {
         smallIs("two", x, 2, 0, 1);
         x.noise(1, 0, false);
         smallIs("one again", x, 2, 0);
-        Check.tell(x, 0, 1, "say id-1; say 0;");
+        Check.set(x, 0, 1, "say id-1; say 0;");
         smallIs("still one", x, 2, 0);
         Check.same("field 0", x.learn(), 1);
         smallIs("two when it was learnt", x, 2, 0, 1);
@@ -206,8 +206,8 @@ public final class NeighboursTest {
     private static void idsOfTrials() {
         ReplayHouse x = new ReplayHouse();
         Check.tellBoth(x, 0, "put 1 id;");
-        Check.tell(x, 0, 1, "say 0; say id;");
-        Check.tell(x, 1, 1, "say id=4; say id;");
+        Check.set(x, 0, 1, "say 0; say id;");
+        Check.set(x, 1, 1, "say id=4; say id;");
         for (int i = 0; i < 3; i++) {
             x.ask(0, 0, 0, i);
         }
@@ -218,7 +218,7 @@ public final class NeighboursTest {
             x.ask(2, 0, 0, 2);
         }
         smallIs("three ids always in", x, 3);
-        Check.tell(x, 1, 1, "say id=1; say id;");
+        Check.set(x, 1, 1, "say id=1; say id;");
         Check.same("not the first id", x.small(3), -1);
         x.ask(1, 0, 0, 0);
         Check.same("not the second", x.small(14), -1);
@@ -226,8 +226,8 @@ public final class NeighboursTest {
 
     private static void versionsOfTrials() {
         ReplayHouse x = new ReplayHouse();
-        Check.tell(x, 0, 0, "put 0 5;");
-        Check.tell(x, 1, 0, "put 0 6;");
+        Check.set(x, 0, 0, "put 0 5;");
+        Check.set(x, 1, 0, "put 0 6;");
         Check.tellBoth(x, 1, "say get 0;");
         x.ask(0, 0, 0, 0);
         x.ask(1, 0, 0, 2);
@@ -241,8 +241,8 @@ public final class NeighboursTest {
     private static void firstCallsBehindAChange() {
         ReplayHouse x = new ReplayHouse();
         Check.tellBoth(x, 0, "put a 1; when get 7 (put b get b;)");
-        Check.tell(x, 0, 1, "say 0;");
-        Check.tell(x, 1, 1, "say 0<get 1;");
+        Check.set(x, 0, 1, "say 0;");
+        Check.set(x, 1, 1, "say 0<get 1;");
         x.ask(0, 1, 2, 0);
         x.ask(0, 2, 1, 0);
         x.ask(1, 0, 0, 9);

@@ -32,8 +32,8 @@ public final class RoomTest {
     private static ReplayHouse fullHouse() {
         ReplayHouse x = new ReplayHouse();
         Check.tellBoth(x, 0, "put 0 get 0+1;" + "put a b+get a*3-get(a+1);".repeat(14) + "say 1;say id;");
-        Check.tell(x, 0, 1, "say 0;");
-        Check.tell(x, 1, 1, "say 28<get 0;");
+        Check.set(x, 0, 1, "say 0;");
+        Check.set(x, 1, 1, "say 28<get 0;");
         for (int i = 0; i < 29; i++) {
             x.ask(0, 1 + i % 5, i, i);
         }

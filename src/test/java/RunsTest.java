@@ -20,13 +20,6 @@ public final class RunsTest {
         Check.close("RunsTest");
     }
 
-    private static int worked(String e, int a, int b) {
-        ReplayHouse x = new ReplayHouse();
-        Check.same(e, Check.tell(x, 1, 3, "say " + e + ";"), 1);
-        x.ask(3, a, b, 0);
-        return x.field(1, 0, 0);
-    }
-
     private static void order() {
         ReplayHouse x = new ReplayHouse();
         Check.tellBoth(x, 0, "say get 0; put 0 get 0*10+a;");
@@ -58,19 +51,19 @@ public final class RunsTest {
     }
 
     private static void valuesWrap() {
-        Check.same("plus", worked("a+b", Integer.MAX_VALUE, 1), Integer.MIN_VALUE);
-        Check.same("minus", worked("a-b", Integer.MIN_VALUE, 1), Integer.MAX_VALUE);
-        Check.same("times", worked("a*b", 65536, 65537), 65536);
-        Check.same("times", worked("999999*999999", 0, 0), 999999 * 999999);
-        Check.same("less", worked("a<b", Integer.MIN_VALUE, Integer.MAX_VALUE), 1);
-        Check.same("not less", worked("a<b", 4, 4), 0);
-        Check.same("not less", worked("a<b", 4, -5), 0);
-        Check.same("like", worked("a=b", -4, -4), 1);
-        Check.same("unlike", worked("a=b", -4, 4), 0);
-        Check.same("from the left", worked("a-b-1*10+2", 20, 5), 142);
-        Check.same("sides of <", worked("a+1<b*2", 7, 4), 0);
-        Check.same("sides of =", worked("a+1=b*2", 7, 4), 1);
-        Check.same("within ( )", worked("a-(b-1)*(a<b+1)", 7, 4), 0);
+        Check.same("plus", Check.worked("a+b", Integer.MAX_VALUE, 1), Integer.MIN_VALUE);
+        Check.same("minus", Check.worked("a-b", Integer.MIN_VALUE, 1), Integer.MAX_VALUE);
+        Check.same("times", Check.worked("a*b", 65536, 65537), 65536);
+        Check.same("times", Check.worked("999999*999999", 0, 0), 999999 * 999999);
+        Check.same("less", Check.worked("a<b", Integer.MIN_VALUE, Integer.MAX_VALUE), 1);
+        Check.same("not less", Check.worked("a<b", 4, 4), 0);
+        Check.same("not less", Check.worked("a<b", 4, -5), 0);
+        Check.same("like", Check.worked("a=b", -4, -4), 1);
+        Check.same("unlike", Check.worked("a=b", -4, 4), 0);
+        Check.same("from the left", Check.worked("a-b-1*10+2", 20, 5), 142);
+        Check.same("sides of <", Check.worked("a+1<b*2", 7, 4), 0);
+        Check.same("sides of =", Check.worked("a+1=b*2", 7, 4), 1);
+        Check.same("within ( )", Check.worked("a-(b-1)*(a<b+1)", 7, 4), 0);
     }
 
     /** As many values held back as there can be: two for each of twelve that are open, two outside, one of put. */
@@ -104,9 +97,9 @@ public final class RunsTest {
     }
 
     private static void workedInOrder() {
-        Check.same("left first", worked("id*10-id", 0, 0), 8);
-        Check.same("left first of <", worked("id<id", 0, 0), 1);
-        Check.same("both sides", worked("(0*id)+id", 0, 0), 2);
+        Check.same("left first", Check.worked("id*10-id", 0, 0), 8);
+        Check.same("left first of <", Check.worked("id<id", 0, 0), 1);
+        Check.same("both sides", Check.worked("(0*id)+id", 0, 0), 2);
         ReplayHouse x = new ReplayHouse();
         Check.tellBoth(x, 0, "put id id; put get 1 get 2;");
         x.ask(0, 0, 0, 0);
@@ -155,8 +148,8 @@ public final class RunsTest {
 
     private static void callsAndNevers() {
         ReplayHouse x = new ReplayHouse();
-        Check.tell(x, 0, 0, "say outside outside a; when b (say outside 1; when 0 (say 1;))");
-        Check.tell(x, 1, 0, "when 0 (say outside 1; say 1;)");
+        Check.set(x, 0, 0, "say outside outside a; when b (say outside 1; when 0 (say 1;))");
+        Check.set(x, 1, 0, "when 0 (say outside 1; say 1;)");
         Check.same("no ask, none done", x.never(0, 0), 5);
         Check.same("no ask, no call", x.calls(0), 0);
         x.ask(0, 1, 0, 0);
@@ -169,7 +162,7 @@ public final class RunsTest {
         Check.same("two never in the other", x.never(1, 0), 2);
         Check.same("nothing to do", x.never(1, 1), 0);
         ReplayHouse y = new ReplayHouse();
-        Check.tell(y, 0, 3, "say 1;".repeat(30));
+        Check.set(y, 0, 3, "say 1;".repeat(30));
         Check.same("30 never", y.never(0, 3), 30);
         y.ask(3, 0, 0, 0);
         Check.same("30 done", y.never(0, 3), 0);
@@ -178,8 +171,8 @@ public final class RunsTest {
 
     private static void versionsAreApart() {
         ReplayHouse x = new ReplayHouse();
-        Check.tell(x, 0, 0, "put 1 a;say get 1;");
-        Check.tell(x, 1, 0, "put 1 get 1+b;");
+        Check.set(x, 0, 0, "put 1 a;say get 1;");
+        Check.set(x, 1, 0, "put 1 get 1+b;");
         x.ask(0, 5, 6, 0);
         x.ask(0, 7, 8, 0);
         Check.same("end 0", x.end(0, 1), 7);
