@@ -258,6 +258,18 @@ public final class BoundsOfAsksTest {
             Check.same("caused at 5, done at " + tick, x.field(0, 1, 0), tick < 5 ? 21 : 12);
             Check.same("they touch all the same", x.touch(0, 1), true);
         }
+        for (int cause = 0; cause < 29; cause++) {
+            ReplayHouse x = new ReplayHouse();
+            Check.set(x, 0, 0, "say a+1;");
+            for (int i = 0; i < 30; i++) {
+                x.ask(0, 10 * i, 0, i == cause ? 50 : i == 29 ? 49 : i);
+            }
+            x.caused(29, cause, 0);
+            for (int round = 0; round < 3; round++) {
+                Check.same("its cause " + cause + " is done behind it", x.field(0, 29, 0), 291);
+                x.keep(0, round);
+            }
+        }
         ReplayHouse x = withAsks(30);
         for (int i = 1; i < 30; i++) {
             x.caused(i, i - 1, 1);

@@ -8,6 +8,7 @@ public final class BoundsOfDifferencesTest {
     private static final Class<IllegalArgumentException> WRONG = IllegalArgumentException.class;
 
     public static void main(String[] args) {
+        versions0And1();
         aFieldOr0();
         whatsOfTouched();
         callsFrom0On();
@@ -19,6 +20,7 @@ public final class BoundsOfDifferencesTest {
         learntFromAMillion();
         unlikeLengths();
         unlikeFields();
+        whatIsBehindAnAnswer();
         noiseAtTheShorterLength();
         noShapes();
         thirtyShapes();
@@ -26,6 +28,28 @@ public final class BoundsOfDifferencesTest {
         whatsOfShape();
         asksThatAreThere();
         Check.close("BoundsOfDifferencesTest");
+    }
+
+    private static void versions0And1() {
+        ReplayHouse x = new ReplayHouse();
+        Check.set(x, 0, 0, "put 0 10;say 1;");
+        Check.set(x, 1, 0, "put 0 20;say 1;say outside 1;when 0 ()");
+        x.ask(0, 0, 0, 0);
+        for (int version = 0; version < 2; version++) {
+            Check.same("fields", x.fields(version, 0), 1 + version);
+            Check.same("end", x.end(version, 0), 10 + 10 * version);
+            Check.same("touched", x.touched(version, 0, 2), 2 + 2 * version);
+            Check.same("calls", x.calls(version), version);
+            Check.same("never", x.never(version, 0), 0);
+        }
+        for (int version : new int[] {-1, 2, 3, MIN, MAX}) {
+            Check.fails("fields in " + version, WRONG, () -> x.fields(version, 0));
+            Check.fails("field in " + version, WRONG, () -> x.field(version, 0, 0));
+            Check.fails("end in " + version, WRONG, () -> x.end(version, 0));
+            Check.fails("touched in " + version, WRONG, () -> x.touched(version, 0, 0));
+            Check.fails("calls in " + version, WRONG, () -> x.calls(version));
+            Check.fails("never in " + version, WRONG, () -> x.never(version, 0));
+        }
     }
 
     private static void aFieldOr0() {
@@ -99,6 +123,16 @@ public final class BoundsOfDifferencesTest {
             Check.same("a " + a, x.never(0, 0), new int[] {4, 3, 1, 1}[a]);
             x.ask(0, 3 - a, 0, 0);
             Check.same("and " + (3 - a), x.never(0, 0), new int[] {0, 1, 1, 0}[a]);
+        }
+        for (int place = 0; place < 29; place++) {
+            ReplayHouse x = new ReplayHouse();
+            Check.set(x, 0, 0, "put 0 1;".repeat(place) + "when a (say 1;)" + "put 0 1;".repeat(28 - place));
+            x.ask(0, 0, 0, 0);
+            Check.same("a when as S " + place + " that is not done", x.never(0, 0), 1);
+            Check.same("nothing is said", x.fields(0, 0), 0);
+            x.ask(0, 1, 0, 0);
+            Check.same("a when as S " + place + " that is done", x.never(0, 0), 0);
+            Check.same("it is said", x.fields(0, 1), 1);
         }
         ReplayHouse x = new ReplayHouse();
         for (int kind : new int[] {-1, 4, MIN, MAX}) {
@@ -247,6 +281,29 @@ public final class BoundsOfDifferencesTest {
         Check.same("all are noise", x.differs(0), -1);
         x.noise(0, 7, false);
         Check.same("the last is none", x.differs(0), 7);
+    }
+
+    /** Neither what was said earlier nor the next ask's answer is a field of it. */
+    private static void whatIsBehindAnAnswer() {
+        ReplayHouse x = new ReplayHouse();
+        Check.set(x, 0, 0, "say 1;say 2;say 3;");
+        Check.set(x, 1, 0, "say 1;say 4;say 5;");
+        x.ask(0, 0, 0, 0);
+        Check.same("unlike", x.differs(0), 1);
+        Check.tellBoth(x, 0, "say 1;");
+        Check.same("alike now", x.differs(0), -1);
+        Check.same("no field 1", x.field(1, 0, 1), 0);
+        Check.tellBoth(x, 0, "");
+        Check.same("alike when empty", x.differs(0), -1);
+        ReplayHouse y = new ReplayHouse();
+        Check.set(y, 0, 0, "say 1;".repeat(7) + "say a;");
+        Check.set(y, 1, 0, "say a;" + "say 1;".repeat(7));
+        for (int i = 0; i < 30; i++) {
+            y.ask(0, i % 2, 0, 0);
+        }
+        for (int i = 0; i < 30; i++) {
+            Check.same("eight fields each, ask " + i, y.differs(i), i % 2 == 1 ? -1 : 0);
+        }
     }
 
     private static void noiseAtTheShorterLength() {

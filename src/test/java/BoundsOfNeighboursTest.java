@@ -22,6 +22,10 @@ public final class BoundsOfNeighboursTest {
         theGreatestNumber();
         smallIsDifferentAnywhere();
         lengthsCountInTrials();
+        trialsOfBothVersions();
+        onlyWhatIsAlwaysInIsKept();
+        askedInAnyOrder();
+        noiseOfAsk0();
         whichOfThem();
         asksThatAreThere();
         Check.close("BoundsOfNeighboursTest");
@@ -146,12 +150,12 @@ public final class BoundsOfNeighboursTest {
         }
     }
 
-    /** Asks that each add 1, and one of kind 1 behind them that says in version 1 alone what there is. */
-    private static ReplayHouse adding(int ahead, String says) {
+    /** Asks that each add 1, and one of kind 1 behind them that says in one version alone what there is. */
+    private static ReplayHouse adding(int version, int ahead, String says) {
         ReplayHouse x = new ReplayHouse();
         Check.tellBoth(x, 0, "put 0 get 0+1;");
-        Check.set(x, 0, 1, "say 0;");
-        Check.set(x, 1, 1, "say " + says + ";");
+        Check.set(x, 1 - version, 1, "say 0;");
+        Check.set(x, version, 1, "say " + says + ";");
         for (int i = 0; i < ahead; i++) {
             x.ask(0, 0, 0, i);
         }
@@ -170,13 +174,14 @@ public final class BoundsOfNeighboursTest {
 
     private static void lastTen() {
         for (int ahead = 1; ahead <= 29; ahead++) {
-            int from = Math.max(0, ahead - 10);
-            smallIs("all of " + ahead, adding(ahead, ahead + "=get 0"), ahead, from, ahead);
-            int due = ahead <= 10 ? 1 : 0;
-            smallIs("one of " + ahead, adding(ahead, "0<get 0"), ahead, 0, due);
-            if (ahead >= 2) {
-                int two = Math.max(0, Math.min(2, 2 - from));
-                smallIs("two of " + ahead, adding(ahead, "1<get 0"), ahead, from, from + two);
+            for (int version = 0; version < 2; version++) {
+                int from = Math.max(0, ahead - 10);
+                smallIs("all of " + ahead, adding(version, ahead, ahead + "=get 0"), ahead, from, ahead);
+                smallIs("one of " + ahead, adding(version, ahead, "0<get 0"), ahead, 0, from == 0 ? 1 : 0);
+                if (ahead >= 2) {
+                    int two = Math.max(0, 2 - from);
+                    smallIs("two of " + ahead, adding(version, ahead, "1<get 0"), ahead, from, from + two);
+                }
             }
         }
     }
@@ -202,7 +207,7 @@ public final class BoundsOfNeighboursTest {
     }
 
     private static void behindItNever() {
-        ReplayHouse x = adding(2, "get 0");
+        ReplayHouse x = adding(1, 2, "get 0");
         x.ask(0, 0, 0, 100);
         x.ask(0, 0, 0, 99);
         smallIs("two behind", x, 2, 0, 1);
@@ -219,7 +224,7 @@ public final class BoundsOfNeighboursTest {
 
     private static void fewestFirst() {
         for (int least = 0; least <= 10; least++) {
-            smallIs("at least " + least, adding(10, least + "<get 0+1"), 10, 0, least);
+            smallIs("at least " + least, adding(least % 2, 10, least + "<get 0+1"), 10, 0, least);
         }
     }
 
@@ -291,8 +296,83 @@ public final class BoundsOfNeighboursTest {
         smallIs("a length is no field", x, 2, 0, 1);
     }
 
+    /** The asks ahead do unlike things in both versions; the others ahead do nothing. */
+    private static void trialsOfBothVersions() {
+        for (int version = 0; version < 2; version++) {
+            ReplayHouse x = new ReplayHouse();
+            Check.set(x, version, 0, "put 0 5;");
+            Check.set(x, 1 - version, 0, "put 0 6;");
+            Check.tellBoth(x, 1, "say get 0;");
+            x.ask(2, 0, 0, 0);
+            x.ask(0, 0, 0, 1);
+            x.ask(2, 0, 0, 2);
+            x.ask(1, 0, 0, 9);
+            smallIs("the one that puts", x, 3, 1, 2);
+            for (int i = 0; i < 9; i++) {
+                x.ask(2, 0, 0, 3);
+            }
+            smallIs("always in", x, 3, 0, 0);
+            Check.same("different", x.differs(3), 0);
+        }
+    }
+
+    /** What is in by turns must leave nothing to the next trial: no value, no id, no answer. */
+    private static void onlyWhatIsAlwaysInIsKept() {
+        for (int version = 0; version < 2; version++) {
+            ReplayHouse x = new ReplayHouse();
+            Check.tellBoth(x, 0, "put 1 id;say 7;");
+            Check.tellBoth(x, 2, "when a=7 (put 0 get 0+1;)");
+            Check.set(x, 1 - version, 1, "say 0;");
+            Check.set(x, version, 1, "say (get 0=1)*(get 1=13)*(id=14);");
+            for (int i = 0; i < 13; i++) {
+                x.ask(0, 0, 0, i);
+            }
+            x.ask(2, 0, 0, 13);
+            x.caused(13, 12, 0);
+            x.ask(1, 0, 0, 14);
+            smallIs("all thirteen ids, then the one that was caused", x, 14, 4, 14);
+        }
+    }
+
+    private static void askedInAnyOrder() {
+        int[][] orders = {
+            {0, 1, 2, 3, 4, 5}, {5, 4, 3, 2, 1, 0}, {3, 0, 5, 1, 4, 2}, {0, 5, 0, 4, 4, 3}, {2, 3, 2, 1, 0, 5}
+        };
+        int[] due = {5, 4, 3, 2, 1, 0};
+        for (int[] order : orders) {
+            ReplayHouse x = new ReplayHouse();
+            Check.set(x, 0, 0, "put 0 get 0+1;say 0;");
+            Check.set(x, 1, 0, "put 0 get 0+1;say get 0=b;");
+            for (int i = 0; i < 6; i++) {
+                x.ask(0, 0, 6 - i, 6 - i);
+            }
+            for (int ask : order) {
+                Check.same("ask " + ask + " needs all ahead", x.small(ask), due[ask]);
+                Check.same("the first of them", x.smallest(ask, 0), ask == 5 ? -1 : 5);
+                Check.same("the last of them", x.smallest(ask, due[ask] - 1), ask == 5 ? -1 : ask + 1);
+            }
+        }
+    }
+
+    private static void noiseOfAsk0() {
+        ReplayHouse x = new ReplayHouse();
+        Check.tellBoth(x, 0, "put 0 get 0+1;");
+        Check.set(x, 0, 1, "say id-1;say 0;");
+        Check.set(x, 1, 1, "say 0<get 0;say 1<get 0;");
+        x.ask(1, 0, 0, 9);
+        x.ask(0, 0, 0, 1);
+        x.ask(0, 0, 0, 2);
+        smallIs("one", x, 0, 1, 2);
+        x.noise(1, 0, true);
+        smallIs("both", x, 0, 1, 3);
+        x.noise(1, 0, false);
+        smallIs("one again", x, 0, 1, 2);
+        Check.same("learnt", x.learn(), 1);
+        smallIs("both again", x, 0, 1, 3);
+    }
+
     private static void whichOfThem() {
-        ReplayHouse x = adding(29, "29=get 0");
+        ReplayHouse x = adding(0, 29, "29=get 0");
         for (int k : new int[] {MIN, -2, -1, 10, 11, 31, 32, MAX}) {
             Check.same("without: " + k, x.smallest(29, k), -1);
         }

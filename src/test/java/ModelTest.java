@@ -1,7 +1,10 @@
 import java.util.Random;
 import java.util.function.IntSupplier;
 
-/** Runs of calls drawn by a fixed seed, on the class and on the model; all answers and exceptions must be the same. */
+/**
+ * Runs of calls drawn by a fixed seed, on the class and on the model; all answers and exceptions must be the same.
+ * With two numbers, from and to, it takes other seeds than those that .ci/run takes.
+ */
 public final class ModelTest {
     private static final int RUNS = 1500;
     private static final int CALLS = 400;
@@ -24,7 +27,9 @@ public final class ModelTest {
     }
 
     public static void main(String[] args) {
-        for (int run = 0; run < RUNS; run++) {
+        int from = args.length == 2 ? Integer.parseInt(args[0]) : 0;
+        int to = args.length == 2 ? Integer.parseInt(args[1]) : RUNS;
+        for (int run = from; run < to; run++) {
             ModelTest test = new ModelTest(run);
             for (int call = 0; call < CALLS; call++) {
                 if (!test.step()) {
