@@ -1,12 +1,12 @@
 /** What the tests share: comparing, expecting exceptions, and laying texts on the tape. */
-final class Check {
+public final class Check {
     private static int asked = 0;
     private static int wrong = 0;
 
     private Check() {
     }
 
-    static void same(String what, long got, long due) {
+    public static void same(String what, long got, long due) {
         asked++;
         if (got != due) {
             wrong++;
@@ -14,11 +14,11 @@ final class Check {
         }
     }
 
-    static void same(String what, boolean got, boolean due) {
+    public static void same(String what, boolean got, boolean due) {
         same(what, got ? 1 : 0, due ? 1 : 0);
     }
 
-    static void fails(String what, Class<? extends RuntimeException> due, Runnable call) {
+    public static void fails(String what, Class<? extends RuntimeException> due, Runnable call) {
         asked++;
         String got = "nothing";
         try {

@@ -239,11 +239,22 @@ public final class RunsTest {
             Check.fails("never in " + version, wrong, () -> x.never(version, 0));
             Check.fails("lag in " + version, wrong, () -> x.lag(version, 1, 1));
         }
+        twoAreWrong(x);
         Check.fails("key -1", noKey, () -> x.end(0, -1));
         Check.fails("key 8", noKey, () -> x.end(0, 8));
         Check.fails("what -1", wrong, () -> x.touched(0, 0, -1));
         Check.fails("what 3", wrong, () -> x.touched(0, 0, 3));
         Check.fails("kind -1", wrong, () -> x.never(0, -1));
         Check.fails("kind 4", wrong, () -> x.never(0, 4));
+    }
+
+    /** The document does not say which is thrown if two are due: the class takes the one that the face names first. */
+    private static void twoAreWrong(ReplayHouse x) {
+        Class<NoSuchElementException> noAsk = NoSuchElementException.class;
+        Check.fails("no ask, no version: fields", noAsk, () -> x.fields(2, 1));
+        Check.fails("no ask, no version: field", noAsk, () -> x.field(-1, 1, 0));
+        Check.fails("no ask, no version: touched", noAsk, () -> x.touched(2, -1, 0));
+        Check.fails("no ask, no what: touched", noAsk, () -> x.touched(0, 1, 3));
+        Check.fails("no key, no version: end", IndexOutOfBoundsException.class, () -> x.end(2, 8));
     }
 }
